@@ -392,39 +392,26 @@ public final class LargerWithin {
     }
 
     public int chest(int b, int set, int n, int w) {
-        int refusal = chestRefusal(b, set, n, w);
-        if (refusal != 0) {
-            return refusal;
-        }
-        weighed.weigh(b, set, n, w);
-        return weighed.found();
+        int refusal = weighIfSound(b, set, n, w);
+        return refusal != 0 ? refusal : weighed.found();
     }
 
     public int sure(int b, int set, int n, int w, boolean isIn) {
-        int refusal = chestRefusal(b, set, n, w);
+        int refusal = weighIfSound(b, set, n, w);
         if (refusal != 0) {
             return refusal;
         }
-        weighed.weigh(b, set, n, w);
         return isIn ? weighed.surelyIn() : weighed.surelyOut();
     }
 
     public int look(int b, int set, int n, int w) {
-        int refusal = chestRefusal(b, set, n, w);
-        if (refusal != 0) {
-            return refusal;
-        }
-        weighed.weigh(b, set, n, w);
-        return weighed.bestLook();
+        int refusal = weighIfSound(b, set, n, w);
+        return refusal != 0 ? refusal : weighed.bestLook();
     }
 
     public int looks(int b, int set, int n, int w) {
-        int refusal = chestRefusal(b, set, n, w);
-        if (refusal != 0) {
-            return refusal;
-        }
-        weighed.weigh(b, set, n, w);
-        return weighed.looksNeeded();
+        int refusal = weighIfSound(b, set, n, w);
+        return refusal != 0 ? refusal : weighed.looksNeeded();
     }
 
     public int sounded(int b, int set, int w, int f) {
@@ -614,12 +601,16 @@ public final class LargerWithin {
         return rows[row].many() != store.itemCount() ? NO_PLACE : 0;
     }
 
-    private int chestRefusal(int b, int set, int n, int w) {
+    /** Why such a chest can't be, or 0: then "weighed" tells of it. */
+    private int weighIfSound(int b, int set, int n, int w) {
         if (!store.hasBox(b)) {
             return NO_SUCH;
         }
-        boolean isSound = hasOnly(set, store.thingBits()) && n >= 0 && n <= MAX_CHEST && w >= 0;
-        return isSound ? 0 : BAD_NUMBER;
+        if (!hasOnly(set, store.thingBits()) || n < 0 || n > MAX_CHEST || w < 0) {
+            return BAD_NUMBER;
+        }
+        weighed.weigh(b, set, n, w);
+        return 0;
     }
 
     private boolean isThingSet(int set, int atMost) {
@@ -1623,7 +1614,7 @@ public final class LargerWithin {
                 return;
             }
             for (int part = rest - 1 & rest; part > 0; part = part - 1 & rest) {
-                if (takesNoMore(b, part, rest)) {
+                if (takes(b, part) && takesNoMore(b, part, rest)) {
                     prices[held | part] = Math.min(prices[held | part], price);
                 }
             }
@@ -1631,9 +1622,6 @@ public final class LargerWithin {
 
         /** A BOX that takes all it can leaves the others the least: no other parts need be tried. */
         private boolean takesNoMore(int b, int part, int rest) {
-            if (!takes(b, part)) {
-                return false;
-            }
             for (int left = rest ^ part; left != 0; left &= left - 1) {
                 if (takes(b, part | left & -left)) {
                     return false;
@@ -1685,7 +1673,8 @@ public final class LargerWithin {
                 return false;
             }
             for (int part = choice; part >= 0; part = part == 0 ? NONE : part - 1 & choice) {
-                if (takesNoMore(row[place], part, choice) && canTake(place + 1, choice ^ part)) {
+                boolean isTried = takes(row[place], part) && takesNoMore(row[place], part, choice);
+                if (isTried && canTake(place + 1, choice ^ part)) {
                     return true;
                 }
             }

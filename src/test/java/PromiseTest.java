@@ -156,6 +156,12 @@ public final class PromiseTest {
         fault("box;", 2, 3);
         fault("boxes 1", 2, 0);
         fault("b 1", 2, 0);
+        fault("zoo 1", 2, 0);
+        fault("box 1 zoo 1", 2, 6);
+        fault("{", 1, 0);
+        fault("`", 1, 0);
+        fault("box /", 1, 4);
+        fault("box :", 1, 4);
         fault("box box", 2, 4);
         fault("box 1 b 1", 2, 6);
         fault("box 1 byx 1", 2, 6);
@@ -558,9 +564,16 @@ public final class PromiseTest {
         LargerWithin all = Due.with(Due.times("box 9 by 9 lid 9 times 64 weight 2 bears 999;", 8) + "thing 1 by 1 weight 1 worth 1;");
         Due.row(all, 0, 0, 1, 2, 3, 4, 5, 6, 7, 0, 3);
         Due.is("17 round all eight", all.lost(0), 255 | 256);
+        Due.is("15 round all eight", all.packing(0, 0), 2);
+        Due.is("15 round all eight, the first", all.packing(0, 1), 0);
         Due.row(all, 0, 0, 1, 2, 3, 4, 5, 6, 7, -1, 0);
         Due.is("17 eight deep", all.lost(0), 0);
         Due.is("17 eight deep is no cycle", all.packing(0, 0), 0);
+        LargerWithin deep = Due.with(Due.times("box 9 by 9 lid 9 times 64 weight 2 bears 999;", 7) + "box 9 by 9 lid 9 times 64 weight 2 bears 14;thing 1 by 1 weight 1 worth 1;");
+        Due.row(deep, 0, 0, 1, 2, 3, 4, 5, 6, 7, -1, 0);
+        Due.is("15 the load from eight deep", deep.packing(0, 0), 4);
+        for (int b = 0; b < 7; b++) deep.put(b, b + 1);
+        Due.is("8 the outermost of eight bears no more", deep.may(8, 0), -10);
     }
 
     private static void p18() {
@@ -905,6 +918,12 @@ public final class PromiseTest {
         Due.is("31 the first twelve of more", x.looks(0, 0x3fff00, 1, 1), 11);
         Due.is("31 more than twelve", x.looks(0, 0xfff00, 2, 2), -4);
         Due.is("31 ten", x.looks(0, 0x1f00, 2, 2), 4);
+        // of 8+9, 8+10, 11+12, 13+14 a look for 8 leaves two at worst, any other three
+        LargerWithin pairs = Due.with("box 9 by 9 lid 3 times 9 weight 1 bears 99;thing 1 by 1 weight 1 worth 1;thing 1 by 1 weight 19 worth 1;thing 1 by 1 weight 19 worth 1;"
+            + "thing 1 by 1 weight 3 worth 1;thing 1 by 1 weight 17 worth 1;thing 1 by 1 weight 6 worth 1;thing 1 by 1 weight 14 worth 1;");
+        Due.is("31 four pairs", pairs.chest(0, 0x7f00, 2, 20), 4);
+        Due.is("31 the best look", pairs.look(0, 0x7f00, 2, 20), 8);
+        Due.is("31 two looks", pairs.looks(0, 0x7f00, 2, 20), 2);
         Due.is("31 no box", x.looks(1, 0, 0, 0), -2);
         Due.is("31 a box", x.looks(0, 1, 0, 0), -3);
         Due.is("31 n", x.looks(0, 0xf00, 13, 0), -3);
