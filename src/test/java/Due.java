@@ -49,4 +49,12 @@ final class Due {
     }
 
     static String times(String line, int n) { return line.repeat(n); }
+
+    static String box(int size, int outline, int lid, int factor, int weight, int bears) {
+        return "box " + size + " by " + outline + " lid " + lid + " times " + factor + " weight " + weight + " bears " + bears + ";";
+    }
+
+    static String thing(int size, int outline, int weight, int worth) {
+        return "thing " + size + " by " + outline + " weight " + weight + " worth " + worth + ";";
+    }
 }
