@@ -22,6 +22,7 @@ public final class ChestEdgesTest {
         looksOfOneSet();
         looksOfTwelveSets();
         looksOfAllKinds();
+        looksByOneOfMany();
         soundedBounds();
         soundedJustFits();
         needsLeastFactor();
@@ -200,6 +201,19 @@ public final class ChestEdgesTest {
                 int due = sets.isEmpty() ? -1 : sets.size() > 12 ? -4 : fewestLooks(sets);
                 Due.is("looks for " + n + " of " + w, x.looks(0, 0x7f00, n, w), due);
             }
+        }
+    }
+
+    /** The first, the last or one between is in half of four pairs of WEIGHT 20, all others in one. */
+    private static void looksByOneOfMany() {
+        int[] weights = {1, 19, 19, 3, 17, 6, 14};
+        for (int turn = 0; turn < 7; turn++) {
+            StringBuilder text = new StringBuilder(WIDE);
+            for (int t = 0; t < 7; t++) text.append(Due.thing(1, 1, weights[(t + turn) % 7], 1));
+            LargerWithin x = Due.with(text.toString());
+            Due.is("four pairs " + turn, x.chest(0, 0x7f00, 2, 20), 4);
+            Due.is("the one " + turn, x.look(0, 0x7f00, 2, 20), 8 + (7 - turn) % 7);
+            Due.is("two looks " + turn, x.looks(0, 0x7f00, 2, 20), 2);
         }
     }
 

@@ -25,6 +25,7 @@ public final class LiesEdgesTest {
         taken();
         allComesOnTheFloor();
         overAsTheyAreLifted();
+        theFirstBoxUpon();
         everyAct();
         actsThatWrap();
         judgedAsIfDone();
@@ -441,6 +442,30 @@ public final class LiesEdgesTest {
         Due.is("over the BOX", x.over(0, 1), 11);
         Due.is("not what is IN it", x.over(0, 2), -1);
         Due.is("far too many", x.over(8, MAX), -1);
+    }
+
+    /** BOX 0 is an ITEM like any other: upon others, below others, in a list. */
+    private static void theFirstBoxUpon() {
+        LargerWithin x = Due.with(FULL);
+        x.put(8, 1);
+        x.put(0, 1);
+        Due.is("BOX 0 is OVER it", x.lies(8, 1), 1);
+        Due.is("it is to be lifted", x.over(8, 0), 0);
+        Due.is("none else", x.over(8, 1), -1);
+        Due.is("not AT HAND", x.take(8), -5);
+        Due.is("BOX 0 in the list", x.box(1, 11), 0);
+        Due.is("two are IN it", x.box(1, 4), 2);
+        Due.is("it is HALVED", x.box(1, 3), 1);
+        Due.is("FILL", x.box(1, 1), 2);
+        Due.is("LOAD", x.box(1, 2), 2);
+        Due.is("IN BOXES", x.count(3), 2);
+        x.put(2, 3);
+        x.put(9, 2);
+        Due.is("BOX 0 is taken", x.take(0), 1);
+        Due.is("and PUT upon a BOX", x.put(0, 3), 2);
+        Due.is("which isn't AT HAND then", x.may(10, 2), -5);
+        Due.is("OVER what is IN that BOX", x.over(9, 0), 0);
+        Due.is("all on THE FLOOR", x.empty(), 4);
     }
 
     // "100 times a BOX and an ITEM: it is PUT; 1000 and an ITEM: it is TAKEN; others can't be (-2)"

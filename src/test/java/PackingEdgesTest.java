@@ -21,6 +21,7 @@ public final class PackingEdgesTest {
         asNumbersAlone();
         howWhichAct();
         howRefused();
+        howAfterAnother();
         howInOrder();
         howOfTheFullStore();
         lostOrNot();
@@ -262,6 +263,21 @@ public final class PackingEdgesTest {
         }
     }
 
+    /** What was wrong with the PACKING that was asked for last says nothing of this one. */
+    private static void howAfterAnother() {
+        LargerWithin x = Due.with(Due.times(WIDE, 2) + SMALL);
+        Due.row(x, 0, 0, 1, -1, 0);
+        Due.row(x, 1, 0, 1, 0, 0);
+        Due.is("nothing wrong", x.packing(0, 0), 0);
+        Due.is("wrong", x.how(1, 0), -5);
+        Due.is("again nothing wrong", x.how(0, 0), 8);
+        Due.is("then the BOX", x.how(0, 1), 100);
+        Due.is("wrong again", x.packing(1, 0), 2);
+        Due.is("and again not", x.how(0, -1), 2);
+        Due.is("LOST by the one", x.lost(1), 0x103);
+        Due.is("by the other none", x.lost(0), 0);
+    }
+
     // "each time the first ITEM that shall be IN a BOX, isn't yet, and IN which all is that shall be, is PUT"
     private static void howInOrder() {
         LargerWithin x = Due.with(Due.times(WIDE, 4) + Due.times(SMALL, 3));
@@ -272,6 +288,10 @@ public final class PackingEdgesTest {
         x.numbers(1, 1, 5);
         for (int k = 0; k < 5; k++) x.write(1, k, acts[k]);
         Due.is("all can be done", x.judge(1, 0), -1);
+        // 1 waits for 0, and 0 for 8
+        Due.row(x, 0, 0, 1, 2, -1, -1, 0, -1, -1);
+        int[] waiting = {8, 100, 201};
+        for (int k = 0; k < 3; k++) Due.is("waiting " + k, x.how(0, k), waiting[k]);
         // empty BOXES are ready at once
         Due.row(x, 0, 0, 1, 2, 3, -1, -1, -1, -1);
         int[] nested = {100, 201, 302};

@@ -18,12 +18,15 @@ public final class SoughtEdgesTest {
         householdOfTen();
         householdJustFits();
         householdOfLikeOnes();
+        householdOfParts();
         householdRefused();
         householdOfEightBoxes();
         holdsGreatestSets();
+        holdsAfterAnother();
         holdsRefused();
         shutOfSix();
         shutJustFits();
+        shutLoads();
         shutRefused();
         shutInFirstWay();
         evenOfTen();
@@ -33,10 +36,13 @@ public final class SoughtEdgesTest {
         nestWhich();
         nestJustFits();
         nestOfEight();
+        nestOfAnotherStore();
+        nestByAllRows();
         voyageRows();
         voyageLiftings();
         voyagesOfFive();
         voyagesWhat();
+        voyagesByAllOrders();
         Due.end("SoughtEdgesTest");
     }
 
@@ -224,6 +230,28 @@ public final class SoughtEdgesTest {
         Due.is("the fewest: one of 7", z.household(0xf00, false, 2), 1);
     }
 
+    /** Each part of three THINGS is the one that a BOX must take. */
+    private static void householdOfParts() {
+        for (int part = 1; part < 7; part++) {
+            StringBuilder things = new StringBuilder();
+            for (int t = 0; t < 3; t++) things.append((part >> t & 1) != 0 ? Due.thing(1, 5, 1, 1) : Due.thing(9, 1, 1, 1));
+            // 0 takes what is wide, 1 what is large
+            String wide = Due.box(Integer.bitCount(part), 1, 5, 1, 1, 99);
+            String large = Due.box(9 * (3 - Integer.bitCount(part)), 1, 1, 1, 1, 99);
+            for (boolean lightest : new boolean[] {false, true}) {
+                LargerWithin x = Due.with(wide + large + things);
+                Due.is("part " + part, x.household(0x700, lightest, 2), 3);
+                LargerWithin y = Due.with(large + wide + things);
+                Due.is("part " + part + " for the other", y.household(0x700, lightest, 2), 3);
+                for (int t = 0; t < 3; t++) {
+                    boolean isWide = (part >> t & 1) != 0;
+                    Due.is("where " + t + " of part " + part + " is", x.holds(0x700, lightest, 8 + t), isWide ? 0 : 1);
+                    Due.is("where " + t + " of part " + part + " is, the other way", y.holds(0x700, lightest, 8 + t), isWide ? 1 : 0);
+                }
+            }
+        }
+    }
+
     // "-2: what; -3: ..", in that order
     private static void householdRefused() {
         LargerWithin x = Due.with(FULL);
@@ -259,6 +287,18 @@ public final class SoughtEdgesTest {
         LargerWithin y = Due.with(Due.box(3, 1, 9, 1, 1, 9) + Due.box(2, 1, 1, 1, 1, 9) + Due.thing(2, 9, 1, 1) + Due.times(SMALL, 3));
         int[] rest = {0, 1, 1, 0};
         for (int t = 0; t < 4; t++) Due.is("wide: " + t, y.holds(0xf00, false, 8 + t), rest[t]);
+    }
+
+    private static void holdsAfterAnother() {
+        // 8 is wide: only 0 takes it; 9 and 10 go anywhere, one at a time
+        LargerWithin x = Due.with(Due.box(1, 1, 5, 1, 1, 9) + Due.box(1, 1, 1, 1, 1, 9) + Due.thing(1, 5, 1, 1) + Due.times(SMALL, 2));
+        Due.is("the wide one", x.holds(0x500, false, 8), 0);
+        Due.is("the other", x.holds(0x500, false, 10), 1);
+        Due.is("two that go anywhere: the greater first", x.holds(0x600, false, 10), 0);
+        Due.is("then the lesser", x.holds(0x600, false, 9), 1);
+        Due.is("the wide one again", x.holds(0x300, true, 8), 0);
+        Due.is("the other again", x.holds(0x300, true, 9), 1);
+        Due.is("too many", x.holds(0x700, true, 9), -1);
     }
 
     // "NONE: there is none; -2: no ITEM of the set; -3: likewise"
@@ -307,6 +347,23 @@ public final class SoughtEdgesTest {
         LargerWithin y = Due.with(Due.box(15, 1, 9, 2, 1, 10) + Due.box(13, 2, 9, 1, 2, 9) + Due.thing(2, 1, 5, 1) + Due.thing(4, 1, 4, 1) + Due.thing(2, 1, 8, 1));
         Due.is("too heavy for the one around: 11 of 10", y.shut(0, 0x302), 0);
         Due.is("as it BEARS: 10 of 10", y.shut(0, 0x402), 2);
+    }
+
+    /** The LOAD of each BOX has all that is IN it, and IN these, in whichever order they are numbered. */
+    private static void shutLoads() {
+        String[] inner = {Due.box(1, 1, 1, 64, 3, 6), Due.box(1, 2, 2, 64, 4, 9), Due.thing(1, 1, 6, 1)};
+        // the one of LID 1 goes IN the one of LID 2 or beside it, the THING anywhere: 13 for the outermost always
+        for (int bears = 12; bears <= 14; bears++) {
+            String outer = Due.box(1, 3, 3, 64, 1, bears);
+            LargerWithin x = Due.with(inner[0] + inner[1] + outer + inner[2]);
+            int ways = bears < 13 ? 0 : 6;
+            Due.is("outermost last, bears " + bears, x.shut(2, 0x103), ways);
+            LargerWithin y = Due.with(outer + inner[1] + inner[0] + inner[2]);
+            Due.is("outermost first, bears " + bears, y.shut(0, 0x106), ways);
+        }
+        LargerWithin x = Due.with(Due.box(1, 1, 1, 64, 3, 6) + Due.box(1, 2, 2, 64, 4, 8) + Due.box(1, 3, 3, 64, 1, 13) + Due.thing(1, 1, 6, 1));
+        Due.is("the middle one bears 8: with 0 IN it the THING is in neither", x.shut(2, 0x103), 4);
+        Due.is("the first way", x.shutIn(2, 0x103, 0) * 100 + x.shutIn(2, 0x103, 1) * 10 + x.shutIn(2, 0x103, 8), 122);
     }
 
     private static void shutRefused() {
@@ -466,6 +523,49 @@ public final class SoughtEdgesTest {
         Due.is("the first that takes it", two.nest(1), 0);
     }
 
+    private static void nestOfAnotherStore() {
+        LargerWithin x = Due.with(FULL);
+        Due.is("eight", x.nest(-1), 8);
+        Due.read(x, Due.box(9, 9, 1, 1, 1, 1) + Due.box(9, 9, 1, 1, 1, 1) + Due.box(9, 9, 1, 1, 1, 1));
+        Due.is("none goes into another", x.nest(-1), 1);
+        Due.is("the first", x.nest(0), 0);
+        Due.is("no second", x.nest(1), -1);
+        Due.read(x, Due.box(9, 9, 9, 9, 1, 99) + Due.box(1, 9, 1, 9, 1, 99));
+        Due.is("two", x.nest(-1), 2);
+        Due.is("the inner one", x.nest(0), 1);
+        Due.is("the outer one", x.nest(1), 0);
+        Due.read(x, Due.times(WIDE, 3));
+        Due.is("three", x.nest(-1), 3);
+        Due.read(x, Due.times(Due.box(4, 4, 4, 3, 1, 99), 3));
+        Due.is("two, as the middle one would have a quarter", x.nest(-1), 2);
+        Due.is("the first two", x.nest(0) * 10 + x.nest(1), 1);
+        x.store(0);
+        Due.is("none", x.nest(-1), 0);
+        Due.is("no first any more", x.nest(0), -1);
+    }
+
+    /** All rows of four BOXES, tried by put(): the longest that can be, and the first of those. */
+    private static void nestByAllRows() {
+        java.util.Random random = new java.util.Random(4);
+        for (int run = 0; run < 40; run++) {
+            StringBuilder text = new StringBuilder();
+            for (int b = 0; b < 4; b++) text.append(Due.box(1 + random.nextInt(8), 1 + random.nextInt(3), 1 + random.nextInt(4), 1 + random.nextInt(6), 1 + random.nextInt(4), 1 + random.nextInt(9)));
+            int[] best = new int[0];
+            for (int code = 0; code < 256; code++) {
+                int[] row = new int[4];
+                int length = 0;
+                for (int k = 0; k < 4; k++) row[k] = code >> 6 - 2 * k & 3;
+                LargerWithin x = Due.with(text.toString());
+                do length++; while (length < 4 && x.put(row[length - 1], row[length]) > 0);
+                if (length > best.length) best = java.util.Arrays.copyOf(row, length);
+            }
+            LargerWithin x = Due.with(text.toString());
+            Due.is("how many of " + text, x.nest(-1), best.length);
+            for (int k = 0; k < best.length; k++) Due.is("BOX " + k + " of " + text, x.nest(k), best[k]);
+            Due.is("no more of " + text, x.nest(best.length), -1);
+        }
+    }
+
     // "-2: the ROW; -6; -3: a number that is no ITEM, or one twice"
     private static void voyageRows() {
         LargerWithin x = Due.with(Due.times(WIDE, 2) + Due.times(SMALL, 2));
@@ -569,5 +669,43 @@ public final class SoughtEdgesTest {
         Due.row(x, 0, 0);
         Due.is("none", x.voyages(0, 0), 0);
         for (int what : new int[] {10, 11, 12, 13, 14}) Due.is("none at " + what, x.voyages(0, what), -1);
+    }
+
+    /** All orders of four ITEMS, told to voyage(): the fewest liftings, and the first of those orders. */
+    private static void voyagesByAllOrders() {
+        int[][] wanted = {{0, 8, 9, 10}, {0, 1, 8, 11}, {1, 9, 10, 12}, {8, 9, 12, 13}, {0, 10, 11, 13}, {2, 8, 10, 12}};
+        for (int[] items : wanted) {
+            LargerWithin x = Due.with(FULL);
+            // in 0: 8 9; in 1: 10 0 11; in 2: 12 1 13
+            int[][] puts = {{8, 0}, {9, 0}, {10, 1}, {0, 1}, {11, 1}, {12, 2}, {1, 2}, {13, 2}};
+            for (int[] one : puts) x.put(one[0], one[1]);
+            Due.is("all are IN BOXES", x.count(3), 8);
+            int fewest = MAX;
+            int[] best = null;
+            x.numbers(0, 0, 4);
+            for (int code = 0; code < 256; code++) {
+                int[] order = new int[4];
+                int seen = 0;
+                for (int k = 0; k < 4; k++) {
+                    order[k] = items[code >> 6 - 2 * k & 3];
+                    seen |= 1 << order[k];
+                }
+                if (Integer.bitCount(seen) < 4) continue;
+                for (int k = 0; k < 4; k++) x.write(0, k, order[k]);
+                int liftings = x.voyage(0);
+                if (liftings < fewest) {
+                    fewest = liftings;
+                    best = order;
+                }
+            }
+            Due.is("fewest of " + items[0] + " ..", x.voyages(0, 0), fewest);
+            for (int k = 0; k < 4; k++) Due.is("order of " + items[0] + " .., " + k, x.voyages(0, 10 + k), best[k]);
+            x.numbers(0, 0, 1);
+            x.write(0, 0, 13);
+            Due.is("then of one on top", x.voyages(0, 0), 0);
+            x.write(0, 0, 0);
+            Due.is("then of BOX 0", x.voyages(0, 0), 2);
+            Due.is("which is BOX 0", x.voyages(0, 10), 0);
+        }
     }
 }

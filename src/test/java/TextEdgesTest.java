@@ -22,6 +22,7 @@ public final class TextEdgesTest {
         firstAlongTheText();
         theEnd();
         everyWordInEveryPlace();
+        everyLetterOfEveryWord();
         numbersBounds();
         ninthBox();
         seventeenthThing();
@@ -260,6 +261,10 @@ public final class TextEdgesTest {
         fault(Due.times(BOX, 8) + "boxes", 2, 8 * BOX.length());
         fault(Due.times(BOX, 8) + "bo", 2, 8 * BOX.length());
         fault(Due.times(BOX, 8) + "lid", 2, 8 * BOX.length());
+        for (String word : new String[] {"things", "thin", "lid", "b", "boxes", "1", ";"}) {
+            fault(Due.times(THING, 16) + word, 2, 16 * THING.length());
+            fault(Due.times(THING, 16) + Due.times(BOX, 8) + word, 2, 16 * THING.length() + 8 * BOX.length());
+        }
     }
 
     // "FAULTS, the first along the text"
@@ -316,6 +321,22 @@ public final class TextEdgesTest {
             }
         }
         sound(THING + BOX + THING + BOX, 4);
+    }
+
+    private static void everyLetterOfEveryWord() {
+        for (String line : new String[] {BOX, THING}) {
+            for (int at = 0; at < line.length(); at++) {
+                if (!isLetter(line.charAt(at))) continue;
+                int begin = at;
+                while (begin > 0 && isLetter(line.charAt(begin - 1))) begin--;
+                char other = line.charAt(at) == 'z' ? 'a' : (char) (line.charAt(at) + 1);
+                fault(line.substring(0, at) + other + line.substring(at + 1), 2, begin);
+                // a letter too few leaves another word, or none
+                String without = line.substring(0, at) + line.substring(at + 1);
+                fault(without, 2, begin);
+                fault(line.substring(0, at) + line.charAt(at) + line.substring(at), 2, begin);
+            }
+        }
     }
 
     private static void bound(String ahead, int least, int most, String behind) {
