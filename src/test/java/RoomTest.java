@@ -44,7 +44,7 @@ public final class RoomTest {
     private static void strangeRun(List<Method> calls, Random random) {
         LargerWithin x = Due.with(text(random));
         x.carriers(random.nextInt(), 60);
-        for (int k = 0; k < 460; k++) {
+        for (int k = 0; k < 420; k++) {
             Method m = calls.get(random.nextInt(calls.size()));
             if (m.getName().equals("store") && random.nextInt(4) != 0) continue;
             Object[] given = new Object[m.getParameterCount()];
